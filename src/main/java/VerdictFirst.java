@@ -1485,9 +1485,9 @@ public final class VerdictFirst {
             }
         }
 
-        private boolean isForeign(int sort) {
-            boolean isOfFee = sort == FIRST_NAME + Law.PRICE || sort == FIRST_NAME + Law.MANY;
-            return inFee ? sort == FIRST_NAME + Law.FACT : isOfFee;
+        private boolean isForeign(int first) {
+            boolean isOfFee = first == FIRST_NAME + Law.PRICE || first == FIRST_NAME + Law.MANY;
+            return inFee ? first == FIRST_NAME + Law.FACT : isOfFee;
         }
     }
 
