@@ -58,6 +58,18 @@ public final class FaultTest {
         fault("Fee 1;", 1, 0);
         fault("feeS 1;", 1, 0);
         fault("fe e 1;", 1, 0);
+        fault("feez 1;", 1, 0);
+        fault("feea 1;", 1, 0);
+        fault("feeZ 1;", 1, 0);
+        fault("feeA 1;", 1, 0);
+        fault("fee[1;", 1, 3);
+        fault("fee`1;", 1, 3);
+        fault("fee{1;", 1, 3);
+        fault("fee@1;", 1, 3);
+        fault("fee 1:", 1, 5);
+        fault("fee 1?", 1, 5);
+        fault(";".repeat(300), 1, 0);
+        fault("fee1" + "+1".repeat(148), 1, 300);
         fault("hides 1 < = 2;", 1, 10);
         fault("hides 1 =< 2;", 1, 9);
         fault("hides 1 == 2;", 1, 9);

@@ -248,6 +248,14 @@ public final class PromiseTest {
         due("by(1)", x.by(1), true);
         x.witness(0, 0, 1, 1);
         due("of(0, 1)", x.of(0, 1), 9);
+        VerdictFirst full = new VerdictFirst();
+        full.witness(0, 0, 1, 1);
+        for (int i = 0; i < 4; i++) {
+            due("300 bytes of no value", Check.read(full, "fee " + "1+".repeat(148)), NONE);
+            due("300 bytes", Check.read(full, "fee " + "1+".repeat(147) + i + ";"), i);
+            full.by(i);
+            due("of(0, 1)", full.of(0, 1), 147 + i);
+        }
     }
 
     private static void fault() {
@@ -591,6 +599,8 @@ public final class PromiseTest {
         one.witness(4, 0, 1, 50);
         due("a witness and a rule", one.least(0, 0), 53);
         due("a witness and a rule", one.least(0, 2), 2);
+        due("nothing of it but 0 .. 2", one.least(0, 3), NONE);
+        due("nothing of it but 0 .. 2", one.least(0, -1), NONE);
     }
 
     private static void never() {
