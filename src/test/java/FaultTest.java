@@ -8,6 +8,7 @@ public final class FaultTest {
     public static void main(String[] args) {
         whole();
         tokens();
+        bytes();
         clauses();
         rules();
         numbers();
@@ -78,6 +79,30 @@ public final class FaultTest {
         fault("rule_", 1, 4);
         fine("hides 1<=-2;");
         fault("hides 1<==2;", 1, 9);
+    }
+
+    /** Every byte that begins no token is fault 1 wherever it stands. */
+    private static void bytes() {
+        String free = " \n<>=#+-*/(),;";
+        for (int i = 0; i < 256; i++) {
+            char sign = (char) i;
+            boolean letter = sign >= 'a' && sign <= 'z' || sign >= 'A' && sign <= 'Z';
+            boolean digit = sign >= '0' && sign <= '9';
+            if (!letter && !digit && free.indexOf(sign) < 0) {
+                fault(sign + "1;", 1, 0);
+                fault("fee " + sign + ";", 1, 4);
+                fault("fee 1" + sign + "1;", 1, 5);
+                fault("hides 1" + sign + "2;", 1, 7);
+                fault("hides" + sign + "1=2;", 1, 5);
+                fault("rule 1 worth 1 bend 1" + sign + "0;", 1, 21);
+            }
+        }
+        String blank = " ".repeat(290);
+        fault(blank + "hides 123<", 1, 300);
+        fault(blank + "hides 123>", 1, 300);
+        fault(blank + "fee 1;hide", 1, 296);
+        fault(blank + "fee 123456", 2, 294);
+        fine(blank + "fee 12345;".replace('5', ' '));
     }
 
     private static void clauses() {
