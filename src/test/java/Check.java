@@ -1,5 +1,5 @@
 /** What the tests share: counting wrong answers, and feeding a text. */
-final class Check {
+class Check {
     private int wrong = 0;
     private int asked = 0;
     private String about = "";
@@ -18,6 +18,21 @@ final class Check {
 
     void due(String call, boolean got, boolean want) {
         due(call, got ? 1 : 0, want ? 1 : 0);
+    }
+
+    /** A text alone on the tape of a new object has this fault at this place, 0 and -1 if it has none. */
+    void fault(String text, int fault, int place) {
+        VerdictFirst x = new VerdictFirst();
+        about("\"" + text.replace('\n', '~') + "\"");
+        due("text()", read(x, text), fault == 0 ? 0 : -1);
+        due("fault(0)", x.fault(0), fault);
+        due("fault(1)", x.fault(1), place);
+        due("about(7)", x.about(7), 0);
+        due("about(3)", x.about(3), fault == 0 ? 1 : 0);
+    }
+
+    void fine(String text) {
+        fault(text, 0, -1);
     }
 
     void end() {
@@ -46,6 +61,20 @@ final class Check {
             throw new IllegalStateException("has a fault: " + text);
         }
         return x;
+    }
+
+    /** What a witness of number 0, kind 2, strength 7 and price 50 takes by a sum. */
+    static int fee(String sum) {
+        VerdictFirst x = ruledBy("fee " + sum + ";");
+        x.witness(0, 2, 7, 50);
+        return x.of(0, 1);
+    }
+
+    /** The facts that the same one adds by what is asked. */
+    static int added(String asked) {
+        VerdictFirst x = ruledBy("adds " + asked + ";");
+        x.witness(0, 2, 7, 50);
+        return x.of(0, 0);
     }
 
     private static int word(String text, int start) {

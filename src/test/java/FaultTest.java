@@ -19,17 +19,11 @@ public final class FaultTest {
     }
 
     private static void fault(String text, int fault, int place) {
-        VerdictFirst x = new VerdictFirst();
-        CHECK.about("\"" + text.replace('\n', '~') + "\"");
-        CHECK.due("text()", Check.read(x, text), fault == 0 ? 0 : -1);
-        CHECK.due("fault(0)", x.fault(0), fault);
-        CHECK.due("fault(1)", x.fault(1), place);
-        CHECK.due("about(7)", x.about(7), 0);
-        CHECK.due("about(3)", x.about(3), fault == 0 ? 1 : 0);
+        CHECK.fault(text, fault, place);
     }
 
     private static void fine(String text) {
-        fault(text, 0, -1);
+        CHECK.fine(text);
     }
 
     private static void whole() {

@@ -4,8 +4,6 @@ public final class PromiseTest {
     private static final int NONE = VerdictFirst.NONE;
     private static final int FAR = Integer.MAX_VALUE;
     private static final int LOW = Integer.MIN_VALUE;
-    private static final String THEFT =
-            "rule 3 worth 5 bend 4 by 0,1 unless 2;rule 4 worth 9 bend 9 by 3;rule 5 worth 2 bend 0 unless 4;";
 
     private PromiseTest() {
     }
@@ -56,21 +54,6 @@ public final class PromiseTest {
         CHECK.due(call, got, want);
     }
 
-    /** Four witnesses of facts 0 .. 3 under the text of the theft. */
-    private static VerdictFirst theft() {
-        VerdictFirst x = Check.ruledBy(THEFT);
-        x.witness(1, 0, 6, 3);
-        x.witness(2, 1, 4, 5);
-        x.witness(4, 0, 9, 1);
-        x.witness(8, 2, 3, 20);
-        x.verdict(4, 4, 10);
-        x.verdict(5, 1, 0);
-        x.verdict(3, 3, 5);
-        x.verdict(9, 1, 1);
-        x.verdict(4, 3, 0);
-        return x;
-    }
-
     private static void newObject() {
         CHECK.about("promise 1");
         VerdictFirst x = new VerdictFirst();
@@ -88,7 +71,7 @@ public final class PromiseTest {
         due("known(0, 15)", x.known(0, 15), 0);
         due("draws(0, 1, 0)", x.draws(0, 1, 0), NONE);
         due("NONE", VerdictFirst.NONE, -1);
-        VerdictFirst other = theft();
+        VerdictFirst other = Courts.theft();
         due("back()", other.back(), 0);
         due("about(1)", other.about(1), 0);
         due("about(3)", other.about(3), 0);
@@ -159,7 +142,7 @@ public final class PromiseTest {
 
     private static void strike() {
         CHECK.about("promise 5");
-        VerdictFirst x = theft();
+        VerdictFirst x = Courts.theft();
         due("strike(4)", x.strike(4, true), false);
         due("strike(-1)", x.strike(-1, true), false);
         due("strike(32)", x.strike(32, true), false);
@@ -333,7 +316,7 @@ public final class PromiseTest {
         int[] want = {0, 9999, 9999, 0, 9999, 0, 50, 7};
         String[] fee = {"0-1", "9999+1", "9999", "-9999", "5000*2", "5/0", "price", "strength"};
         for (int i = 0; i < fee.length; i++) {
-            due(fee[i], fee(fee[i]), want[i]);
+            due(fee[i], Check.fee(fee[i]), want[i]);
         }
         VerdictFirst x = Check.ruledBy("fee who*1000+kind*100+strength*10+many+hour;");
         x.witness(0, 0, 1, 9);
@@ -346,12 +329,6 @@ public final class PromiseTest {
         due("without", x.of(1, 1), 9);
     }
 
-    private static int fee(String sum) {
-        VerdictFirst x = Check.ruledBy("fee " + sum + ";");
-        x.witness(0, 2, 7, 50);
-        return x.of(0, 1);
-    }
-
     private static void reckoning() {
         CHECK.about("reckoning");
         String[] sum = {"10-3-2", "2+3*4", "(2+3)*4", "100/7/2", "100/(7/2)", "7*5/2", "7/2*5", "10--3", "100-7/2",
@@ -360,16 +337,14 @@ public final class PromiseTest {
             "-(9999*200)+9999*100+105"};
         int[] want = {5, 14, 20, 7, 33, 17, 15, 13, 97, 97, 97, 1000, 100, 9, 10, 7, 4, 3, 6, 1, 1, 5, 1000, 5};
         for (int i = 0; i < sum.length; i++) {
-            due(sum[i], fee(sum[i]), want[i]);
+            due(sum[i], Check.fee(sum[i]), want[i]);
         }
         String[] ask = {"fact<2", "fact<=2", "fact>13", "fact>=13", "fact=7", "fact#7", "fact=1 or fact=2 and fact=3",
             "fact=1 and fact=2 or fact=3", "not fact<14 and not fact=15", "not not not fact#4", "fact-3<-1",
             "1=1 or 1=2 and 1=2", "1=2 and 1=2 or 1=1", "1=2 or 1=2 or fact=9"};
         int[] bits = {3, 7, 0xc000, 0xe000, 128, 0xffff - 128, 2, 8, 1 << 14, 16, 3, 0xffff, 0xffff, 512};
         for (int i = 0; i < ask.length; i++) {
-            VerdictFirst x = Check.ruledBy("adds " + ask[i] + ";");
-            x.witness(0, 2, 7, 50);
-            due(ask[i], x.of(0, 0), bits[i]);
+            due(ask[i], Check.added(ask[i]), bits[i]);
         }
     }
 
@@ -400,7 +375,7 @@ public final class PromiseTest {
 
     private static void rise() {
         CHECK.about("promise 13");
-        VerdictFirst x = theft();
+        VerdictFirst x = Courts.theft();
         due("nobody", x.rise(), 0);
         x.hear(3);
         x.hear(0);
@@ -416,7 +391,7 @@ public final class PromiseTest {
 
     private static void shown() {
         CHECK.about("promise 14");
-        VerdictFirst x = theft();
+        VerdictFirst x = Courts.theft();
         int[][] want = {{0, 0, 0}, {0, 5, 2}, {3, 0, 6}, {3, 1, 4}, {3, 3, 4}, {3, 4, 4}, {3, 5, 0}, {7, 3, 0},
             {7, 4, 0}, {7, 5, 2}, {8, 3, 3}, {8, 4, 3}, {15, 3, 3}, {11, 3, 4}, {16, 3, NONE}, {-1, 3, NONE},
             {0, 16, NONE}, {0, -1, NONE}, {FAR, FAR, NONE}, {LOW, 0, NONE}};
@@ -440,7 +415,7 @@ public final class PromiseTest {
 
     private static void known() {
         CHECK.about("promise 15");
-        VerdictFirst x = theft();
+        VerdictFirst x = Courts.theft();
         x.hear(1);
         x.hear(0);
         x.hear(2);
@@ -465,7 +440,7 @@ public final class PromiseTest {
 
     private static void follows() {
         CHECK.about("promise 16");
-        VerdictFirst x = theft();
+        VerdictFirst x = Courts.theft();
         int[][] want = {{3, 0, 1}, {1, 0, 0}, {8, 0, 0}, {8, 4, 1}, {0, 1, 1}, {3, 1, 0}, {3, 5, NONE}, {3, -1, NONE},
             {16, 0, NONE}, {-1, 0, NONE}, {FAR, 0, NONE}, {0, LOW, NONE}};
         for (int[] row : want) {
@@ -475,7 +450,7 @@ public final class PromiseTest {
 
     private static void appeal() {
         CHECK.about("promise 17");
-        VerdictFirst x = theft();
+        VerdictFirst x = Courts.theft();
         x.hear(0);
         x.hear(1);
         due("appeal(0, 1)", x.appeal(0, 1), 1);
@@ -492,7 +467,7 @@ public final class PromiseTest {
 
     private static void chain() {
         CHECK.about("promise 18");
-        VerdictFirst x = theft();
+        VerdictFirst x = Courts.theft();
         int[] facts = {0, 1, 3, 4};
         int[] rules = {NONE, NONE, 0, 1};
         due("steps", x.chain(3, 0, NONE, 0), 4);
@@ -524,7 +499,7 @@ public final class PromiseTest {
 
     private static void weakest() {
         CHECK.about("promise 19");
-        VerdictFirst x = theft();
+        VerdictFirst x = Courts.theft();
         due("by evidence", x.weakest(3, 0), 1);
         due("of its own worth", x.weakest(0, 1), 5);
         due("of evidence on its way", x.weakest(8, 4), 3);
@@ -543,7 +518,7 @@ public final class PromiseTest {
 
     private static void defeats() {
         CHECK.about("promise 20");
-        VerdictFirst x = theft();
+        VerdictFirst x = Courts.theft();
         due("defeats(3, 0)", x.defeats(3, 0), 4);
         due("defeats(0, 1)", x.defeats(0, 1), 24);
         due("defeats(8, 2)", x.defeats(8, 2), 0);
@@ -559,7 +534,7 @@ public final class PromiseTest {
 
     private static void least() {
         CHECK.about("promise 21");
-        VerdictFirst x = theft();
+        VerdictFirst x = Courts.theft();
         int[][] want = {{0, 8, 3, NONE}, {1, 0, 0, NONE}, {2, 8, 3, NONE}, {3, NONE, NONE, NONE}};
         for (int[] row : want) {
             for (int what = 0; what < 3; what++) {
@@ -605,7 +580,7 @@ public final class PromiseTest {
 
     private static void never() {
         CHECK.about("promise 22");
-        VerdictFirst x = theft();
+        VerdictFirst x = Courts.theft();
         due("never()", x.never(), 8);
         x.strike(0, true);
         due("never()", x.never(), 9);
@@ -619,7 +594,7 @@ public final class PromiseTest {
 
     private static void together() {
         CHECK.about("promise 23");
-        VerdictFirst x = theft();
+        VerdictFirst x = Courts.theft();
         due("together(2, 4)", x.together(2, 4), true);
         due("together(4, 2)", x.together(4, 2), true);
         due("together(0, 2)", x.together(0, 2), false);
@@ -636,7 +611,7 @@ public final class PromiseTest {
 
     private static void amend() {
         CHECK.about("promise 24");
-        VerdictFirst x = theft();
+        VerdictFirst x = Courts.theft();
         due("amend(7, 0)", x.amend(7, 0), 0);
         due("it follows", x.amend(3, 0), NONE);
         due("none", x.amend(0, 0), NONE);
@@ -653,7 +628,7 @@ public final class PromiseTest {
 
     private static void day() {
         CHECK.about("promise 25");
-        VerdictFirst x = theft();
+        VerdictFirst x = Courts.theft();
         int[][] want = {{0, 2, 0, 8, 1}, {0, 2, 0, 7, 0}, {0, 1, 0, 99, 0}, {0, 2, 1, 99, 0}, {0, 0, 0, 0, 0},
             {1, 0, 0, 0, 1}, {1, 6, 2, 999, 1}, {2, 1, 2, 20, 1}, {2, 2, 2, 19, 0}, {0, 7, 0, 0, NONE},
             {0, -1, 0, 0, NONE}, {0, 0, 3, 0, NONE}, {0, 0, -1, 0, NONE}, {0, 0, 0, -1, NONE}, {0, 0, 0, 1000, NONE},
@@ -696,7 +671,7 @@ public final class PromiseTest {
 
     private static void best() {
         CHECK.about("promise 26");
-        VerdictFirst x = theft();
+        VerdictFirst x = Courts.theft();
         int[][] want = {{0, 2, 0, 8, 0}, {0, 2, 0, 7, NONE}, {1, 1, 0, 0, 10}, {1, 0, 0, 0, NONE}, {2, 1, 2, 20, 3},
             {1, 1, 0, 99, 0}, {0, 7, 0, 8, NONE}, {0, 2, 3, 8, NONE}, {0, 2, -1, 8, NONE}, {0, 2, 0, 1000, NONE},
             {0, 2, 0, -1, NONE}, {5, 2, 0, 8, NONE}, {-1, 2, 0, 8, NONE}, {0, 3, 0, 8, 0}};
@@ -770,7 +745,7 @@ public final class PromiseTest {
 
     private static void draws() {
         CHECK.about("promise 29");
-        VerdictFirst x = theft();
+        VerdictFirst x = Courts.theft();
         due("draws(0, 3, 0)", x.draws(0, 3, 0), 3);
         due("draws(0, 3, 1)", x.draws(0, 3, 1), 24);
         int[][] wrong = {{-1, 1, 0}, {10000, 1, 0}, {0, 0, 0}, {0, 31, 0}, {0, 1, 2}, {0, 1, -1}, {LOW, LOW, LOW}};
@@ -798,7 +773,7 @@ public final class PromiseTest {
 
     private static void image() {
         CHECK.about("promises 30 and 31");
-        VerdictFirst x = theft();
+        VerdictFirst x = Courts.theft();
         x.hear(0);
         x.hear(1);
         x.strike(2, true);
@@ -847,7 +822,7 @@ public final class PromiseTest {
 
     private static void about() {
         CHECK.about("promise 32");
-        VerdictFirst x = theft();
+        VerdictFirst x = Courts.theft();
         x.hear(3);
         x.hear(1);
         x.hour(5);
