@@ -219,6 +219,8 @@ public final class EdgeSearchTest {
         witnesses.witness(1, 0, 1, 0);
         EDGE.due("no verdicts, a witness", witnesses.never(), 0);
         EDGE.due("all follow", Courts.carried().never(), 0);
+        EDGE.due("the only one follows", Courts.row(1).never(), 0);
+        EDGE.due("the only one doesn't", Courts.row(0).never(), 1);
     }
 
     private static void neverOfAll() {
@@ -236,6 +238,16 @@ public final class EdgeSearchTest {
         x.strike(0, true);
         x.strike(1, true);
         EDGE.due("who are struck", x.never(), 63);
+        for (int open = 0; open < 6; open++) {
+            VerdictFirst last = new VerdictFirst();
+            for (int i = 0; i < 6; i++) {
+                last.witness(1 << (open + 1 + i) % 6, 0, 1, 0);
+                last.verdict(i, 1, 0);
+            }
+            EDGE.due("the last witness carries " + open, last.never(), 0);
+            last.strike(5, true);
+            EDGE.due("struck he doesn't", last.never(), 1 << open);
+        }
     }
 
     // "VERDICTS that FOLLOW by no set"

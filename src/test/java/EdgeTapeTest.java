@@ -26,6 +26,8 @@ public final class EdgeTapeTest {
         fifthKeepsTheTape();
         fifthIsNotRead();
         textOf300();
+        textBehindALongerOne();
+        textBehindAFault();
         textDoesNotRule();
         faultAheadOfAny();
         faultRange();
@@ -291,6 +293,40 @@ public final class EdgeTapeTest {
         for (int i = 0; i < 4; i++) {
             full.by(i);
             EDGE.due("of(0, 1)", full.of(0, 1), 147 + i);
+        }
+    }
+
+    /** A text that was read last is by itself, whatever was read ahead of it. */
+    private static void behind(String ahead, String text, int fee, int says) {
+        VerdictFirst x = new VerdictFirst();
+        x.witness(0x00ff, 0, 1, 50);
+        Check.read(x, ahead);
+        EDGE.due("by(" + text + ")", x.by(Check.read(x, text)), true);
+        EDGE.due("its fee", x.of(0, 1), fee);
+        EDGE.due("what he says", x.of(0, 0), says);
+    }
+
+    private static void textBehindALongerOne() {
+        EDGE.about("promise 8, behind a longer text");
+        for (String ahead : new String[] {"fee 1-(2-(3-(4-5)));", "fee -----5;", "fee 1+2*3*4*5;",
+            "hides not not not not not fact<4;", "adds not not not not not fact<4;fee 9-(8-(7-6));",
+            "fee 1;hides 1=1;adds 1=1;rule 3 worth 1 bend 1;"}) {
+            behind(ahead, "", 50, 0x00ff);
+            behind(ahead, "fee 7;", 7, 0x00ff);
+            behind(ahead, "fee 9-2;", 7, 0x00ff);
+            behind(ahead, "hides fact=0;", 50, 0x00fe);
+            behind(ahead, "adds fact=15;", 50, 0x80ff);
+            behind(ahead, "adds fact=15;hides fact=0;fee 3;", 3, 0x80fe);
+        }
+    }
+
+    private static void textBehindAFault() {
+        EDGE.about("promise 8, behind a fault");
+        for (String ahead : new String[] {"fee 1-(2-(3-(4-", "fee -----5;fee", "hides not not fact<4 or !",
+            "adds 1=1;hides 1=1;fee 3;rule 16", "rule 3 worth 1 bend 1 by 3;", "rule0worth1bend1;".repeat(17)}) {
+            behind(ahead, "", 50, 0x00ff);
+            behind(ahead, "fee 9-2;", 7, 0x00ff);
+            behind(ahead, "adds fact=15;hides fact=0;", 50, 0x80fe);
         }
     }
 
