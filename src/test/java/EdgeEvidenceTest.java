@@ -527,7 +527,8 @@ public final class EdgeEvidenceTest {
     // "else by its first RULE that makes it so"
     private static void chainByTheFirstRule() {
         EDGE.about("promise 18, the first rule");
-        VerdictFirst x = Check.ruledBy("rule 3 worth 3 bend 0;rule 3 worth 4 bend 0 unless 0;rule 3 worth 9 bend 0 by 1;"
+        VerdictFirst x = Check.ruledBy("rule 3 worth 3 bend 0;rule 3 worth 4 bend 0 unless 0;"
+                + "rule 3 worth 9 bend 0 by 1;"
                 + "rule 3 worth 4 bend 0;rule 3 worth 4 bend 0 by 2;");
         x.witness(1, 0, 1, 0);
         x.witness(2, 0, 4, 0);
@@ -594,7 +595,8 @@ public final class EdgeEvidenceTest {
         VerdictFirst x = Check.ruledBy("rule 15 worth 1 bend 0 unless 0,1,2,3,4,5,6,7,8,9,10,11,12,13,14;");
         x.verdict(15, 1, 0);
         EDGE.due("defeats(0, 0)", x.defeats(0, 0), 0x7fff);
-        VerdictFirst one = Check.ruledBy("rule 15 worth 1 bend 0 unless 14;rule 14 worth 1 bend 0 by 0,1;rule 1 worth 1 bend 0;");
+        VerdictFirst one = Check.ruledBy("rule 15 worth 1 bend 0 unless 14;"
+                + "rule 14 worth 1 bend 0 by 0,1;rule 1 worth 1 bend 0;");
         one.verdict(15, 1, 0);
         EDGE.due("at once, and through a rule", one.defeats(0, 0), 1 << 14 | 1);
     }

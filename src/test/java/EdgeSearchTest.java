@@ -105,7 +105,8 @@ public final class EdgeSearchTest {
 
     private static void leastOfAll() {
         EDGE.about("promise 21, the dearest");
-        VerdictFirst x = court("fee 9999;rule 10 worth 1 bend 0;rule 15 worth 1 bend 99 by 0,1,2,3,4,5,6,7,8,9 unless 10;", 15, 1);
+        VerdictFirst x = court("fee 9999;rule 10 worth 1 bend 0;"
+                + "rule 15 worth 1 bend 99 by 0,1,2,3,4,5,6,7,8,9 unless 10;", 15, 1);
         for (int i = 0; i < 10; i++) {
             x.witness(1 << i, 0, 1, 0);
         }
@@ -174,7 +175,8 @@ public final class EdgeSearchTest {
     // "of no RULE or one that is BENT"
     private static void leastBendsOneAlone() {
         EDGE.about("promise 21, one rule");
-        VerdictFirst x = court("rule 0 worth 1 bend 0;rule 1 worth 1 bend 1 unless 0;rule 2 worth 1 bend 1 by 1 unless 0;", 2, 1);
+        VerdictFirst x = court("rule 0 worth 1 bend 0;rule 1 worth 1 bend 1 unless 0;"
+                + "rule 2 worth 1 bend 1 by 1 unless 0;", 2, 1);
         least(x, "two that would have to be", NONE, NONE, NONE);
         x.witness(2, 0, 1, 50);
         least(x, "one of them", 51, 1, 2);
@@ -253,7 +255,8 @@ public final class EdgeSearchTest {
     // "VERDICTS that FOLLOW by no set"
     private static void neverByOneSet() {
         EDGE.about("promise 22, one set");
-        VerdictFirst x = court("rule 10 worth 5 bend 0 by 0,1,2,3,4,5,6,7,8,9;rule 11 worth 5 bend 0 unless 0,1,2,3,4,5,6,7,8,9;", 10, 5);
+        VerdictFirst x = court("rule 10 worth 5 bend 0 by 0,1,2,3,4,5,6,7,8,9;"
+                + "rule 11 worth 5 bend 0 unless 0,1,2,3,4,5,6,7,8,9;", 10, 5);
         x.verdict(11, 5, 0);
         x.verdict(10, 6, 0);
         x.verdict(11, 6, 0);
@@ -361,7 +364,8 @@ public final class EdgeSearchTest {
     private static void amendOfNone() {
         EDGE.about("promise 24, none");
         EDGE.refused(() -> Courts.row(1), "without rules", x -> x.amend(0, 0), NONE);
-        VerdictFirst x = court("rule 0 worth 1 bend 0;rule 1 worth 1 bend 0 unless 0;rule 2 worth 1 bend 0 by 1 unless 0;"
+        VerdictFirst x = court("rule 0 worth 1 bend 0;rule 1 worth 1 bend 0 unless 0;"
+                + "rule 2 worth 1 bend 0 by 1 unless 0;"
                 + "rule 3 worth 1 bend 0 by 0;", 2, 1);
         EDGE.due("two that would have to be", x.amend(0, 0), NONE);
         x.verdict(3, 2, 0);
@@ -376,14 +380,16 @@ public final class EdgeSearchTest {
         EDGE.due("the first of all", first.amend(0, 0), 0);
         VerdictFirst last = court("rule2worth1bend0;" + "rule0worth1bend1;".repeat(14) + barred, 3, 1);
         EDGE.due("the last of sixteen", last.amend(0, 0), 15);
-        VerdictFirst cheaper = court("rule 2 worth 1 bend 0;rule 3 worth 1 bend 99 unless 2;rule 3 worth 1 bend 0 unless 2;", 3, 1);
+        VerdictFirst cheaper = court("rule 2 worth 1 bend 0;rule 3 worth 1 bend 99 unless 2;"
+                + "rule 3 worth 1 bend 0 unless 2;", 3, 1);
         EDGE.due("the lowest, not the cheapest", cheaper.amend(0, 0), 1);
     }
 
     private static void amendByTheBurden() {
         EDGE.about("promise 24, its burden");
         for (int burden = 1; burden <= 9; burden++) {
-            VerdictFirst x = court("rule 0 worth 1 bend 0;rule 1 worth 4 bend 0 unless 0;rule 1 worth 8 bend 0 unless 0;", 1, burden);
+            VerdictFirst x = court("rule 0 worth 1 bend 0;rule 1 worth 4 bend 0 unless 0;"
+                    + "rule 1 worth 8 bend 0 unless 0;", 1, burden);
             EDGE.due("burden " + burden, x.amend(0, 0), burden <= 4 ? 1 : burden <= 8 ? 2 : NONE);
             VerdictFirst by = court("rule 0 worth 1 bend 0;rule 2 worth 9 bend 0 by 1 unless 0;", 2, burden);
             by.witness(2, 0, 3, 0);
