@@ -1475,12 +1475,17 @@ public final class VerdictFirst {
                 fail(TOO_DEEP);
             } else {
                 at++;
-                if (first == '(') {
-                    sum(depth + 1);
-                    pass(')');
-                } else {
+                if (first == '-') {
                     one(depth + 1);
                     law.emit(Law.SIGN + LESS_IT);
+                } else {
+                    sum(depth + 1);
+                    // Not by pass: from text on, calls would go nine deep there.
+                    if (sort() == ')') {
+                        at++;
+                    } else {
+                        fail(WRONG_TOKEN);
+                    }
                 }
             }
         }

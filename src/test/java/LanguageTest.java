@@ -31,6 +31,7 @@ public final class LanguageTest {
         classes();
         words(code);
         methods(code);
+        calls();
         CHECK.end();
     }
 
@@ -61,9 +62,11 @@ public final class LanguageTest {
         }
         CHECK.due("the face is " + got + ", due is " + want, got.equals(want), true);
         CHECK.due("how many", got.size(), 32);
-        for (Method one : type.getDeclaredMethods()) {
-            boolean hides = Modifier.isPrivate(one.getModifiers()) && names.contains(one.getName());
-            CHECK.due("a private " + one.getName(), hides, false);
+        for (Class<?> each : allClasses()) {
+            for (Method one : each.getDeclaredMethods()) {
+                boolean hides = Modifier.isPrivate(one.getModifiers()) && names.contains(one.getName());
+                CHECK.due("a private " + one.getName() + " of " + each.getSimpleName(), hides, false);
+            }
         }
         for (Field one : type.getDeclaredFields()) {
             boolean seen = !Modifier.isPrivate(one.getModifiers());
@@ -72,10 +75,15 @@ public final class LanguageTest {
         CHECK.due("public and final", type.getModifiers(), Modifier.PUBLIC | Modifier.FINAL);
     }
 
-    private static void classes() {
-        CHECK.about("rules 2, 5 and 11");
+    private static List<Class<?>> allClasses() {
         List<Class<?>> all = new ArrayList<>(List.of(VerdictFirst.class.getDeclaredClasses()));
         all.add(VerdictFirst.class);
+        return all;
+    }
+
+    private static void classes() {
+        CHECK.about("rules 2, 5 and 11");
+        List<Class<?>> all = allClasses();
         CHECK.due("classes", all.size() <= 12, true);
         for (Class<?> type : all) {
             boolean nested = type == VerdictFirst.class || Modifier.isStatic(type.getModifiers());
@@ -120,5 +128,18 @@ public final class LanguageTest {
             CHECK.due("makes objects: " + head.group(2), makes, head.group(2).equals("VerdictFirst"));
         }
         CHECK.due("methods that were seen", many > 100, true);
+    }
+
+    private static void calls() throws Exception {
+        CHECK.about("rules 8 and 11");
+        Calls calls = new Calls(SOURCE);
+        List<String> way = calls.longestWay();
+        CHECK.due("a way of calls that is too long, " + way, way.size() <= 8, true);
+        CHECK.due("a way of calls that is too short to be all, " + way, way.size() >= 6, true);
+        for (String one : calls.recursive()) {
+            // The depth is carried as an argument.
+            CHECK.due("recursion without a depth: " + one, one.endsWith("(int)"), true);
+        }
+        CHECK.due("methods whose calls were seen", calls.methods().size() > 100, true);
     }
 }

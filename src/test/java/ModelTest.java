@@ -13,11 +13,14 @@ public final class ModelTest {
     private final List<String> log = new ArrayList<>();
     private final Texts texts;
     private final int size;
+    private final int facts;
     private boolean wrong = false;
 
     private ModelTest(long seed) {
         random = new Random(seed);
-        texts = new Texts(random);
+        // Of few facts, more is shown, carried and barred by more steps.
+        facts = seed % 2 == 0 ? 7 : 16;
+        texts = new Texts(random, facts);
         size = seed % 7 == 0 ? 10 : 6;
     }
 
@@ -97,7 +100,7 @@ public final class ModelTest {
     }
 
     private int fact() {
-        return from(0, 15);
+        return random.nextInt(3) == 0 ? from(0, 15) : random.nextInt(facts);
     }
 
     private int set() {
@@ -105,7 +108,7 @@ public final class ModelTest {
     }
 
     private int knows() {
-        int few = 1 << random.nextInt(16) | 1 << random.nextInt(6);
+        int few = 1 << random.nextInt(facts) | 1 << random.nextInt(6);
         return random.nextInt(4) == 0 ? from(0, 65535) : few;
     }
 

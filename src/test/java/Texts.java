@@ -9,10 +9,17 @@ final class Texts {
         "\0", "\u00e9", "\n"};
 
     private final Random random;
+    private final int facts;
     private StringBuilder out = new StringBuilder();
 
     Texts(Random random) {
+        this(random, 16);
+    }
+
+    /** Most rules are of so many facts alone: of few, they rest on one another more often. */
+    Texts(Random random, int facts) {
         this.random = random;
+        this.facts = facts;
     }
 
     byte[] whole() {
@@ -89,7 +96,7 @@ final class Texts {
     }
 
     private void rule(boolean dense) {
-        int fact = random.nextInt(4) == 0 ? random.nextInt(3) : random.nextInt(16);
+        int fact = random.nextInt(4) == 0 ? random.nextInt(3) : random.nextInt(random.nextInt(6) == 0 ? 16 : facts);
         put("rule");
         put("" + fact);
         put("worth");
