@@ -53,9 +53,7 @@ public final class ReadmeTest {
             if (told.matches()) {
                 lines.add(line);
                 want.add(told.group(3));
-                body.append(told.group(1) == null ? "" : told.group(1) + " = ");
-                body.append(told.group(1) == null ? "got.add(String.valueOf(" + told.group(2) + "));" : told.group(2) + ";");
-                body.append(told.group(1) == null ? "" : "got.add(String.valueOf(" + told.group(1).substring(4) + "));");
+                body.append(noted(told.group(1), told.group(2)));
             } else {
                 CHECK.due("a call whose answer isn't told: " + line, line.startsWith("court."), false);
                 body.append(line);
@@ -68,6 +66,15 @@ public final class ReadmeTest {
         for (int i = 0; i < got.size() && i < want.size(); i++) {
             CHECK.due(lines.get(i) + " answered " + got.get(i), got.get(i).equals(want.get(i)), true);
         }
+    }
+
+    /** The statement, with its answer put behind the others; what it declares, if anything, is as "int anna". */
+    private static String noted(String declared, String call) {
+        if (declared == null) {
+            return "got.add(String.valueOf(" + call + "));";
+        }
+        String name = declared.substring("int ".length());
+        return declared + " = " + call + "; got.add(String.valueOf(" + name + "));";
     }
 
     private static List<?> run(String body) throws Exception {
@@ -91,7 +98,8 @@ public final class ReadmeTest {
     }
 
     private static int compile(Path work, Path source, StringWriter said) throws IOException {
-        List<String> options = List.of("-proc:none", "-cp", System.getProperty("java.class.path"), "-d", work.toString());
+        String classes = System.getProperty("java.class.path");
+        List<String> options = List.of("-proc:none", "-cp", classes, "-d", work.toString());
         var compiler = ToolProvider.getSystemJavaCompiler();
         try (var files = compiler.getStandardFileManager(null, null, null)) {
             boolean fine = compiler.getTask(new PrintWriter(said), files, null, options, null,
